@@ -348,7 +348,9 @@ public final class PromisesTest {
         due("18: path, alike(0, 2, 2)", path.alike(0, 2, 2), 1);
         due("18: path, alike(0, 3, 2)", path.alike(0, 3, 2), 0);
         due("18: path, alike(0, 3, 3)", path.alike(0, 3, 3), 1);
-        // 9 to the 8th colourings do it: the most there can be.
+        due("18: none joined, alike(0, 8, 1)", new CliqueLister(9).alike(0, 8, 1), 1);
+        due("18: none joined, alike(0, 8, 0)", new CliqueLister(9).alike(0, 8, 0), 0);
+        // 9 to the 8th colourings do it, and 9 to the 9th in the row after: the most there can be.
         due("18: none joined, alike(0, 8, 9)", new CliqueLister(9).alike(0, 8, 9), 1);
         due("18: none joined, alike(8, 8, 9)", new CliqueLister(9).alike(8, 8, 9), 1);
         due("18: all joined, alike(3, 3, 9)", allJoined(9).alike(3, 3, 9), 1);
