@@ -4,15 +4,19 @@ import java.lang.reflect.Method;
 import java.lang.reflect.Modifier;
 import java.nio.file.Files;
 import java.nio.file.Path;
+import java.util.ArrayDeque;
 import java.util.ArrayList;
 import java.util.Arrays;
+import java.util.Deque;
 import java.util.List;
+import java.util.Map;
 import java.util.Set;
+import java.util.TreeMap;
 import java.util.TreeSet;
 import java.util.regex.Matcher;
 import java.util.regex.Pattern;
 
-// Those rules of LANGUAGE.md that can be seen in the compiled class or in single words of the source.
+// Those rules of LANGUAGE.md that can be seen in the compiled class or in the words and calls of the source.
 public final class LanguageTest {
     private static final Set<String> FACE = Set.of(
             "points()", "join(int,int,int)", "weave(int,int)", "invert()", "weigh(int,int)",
@@ -28,6 +32,7 @@ public final class LanguageTest {
             + "|Object|Thread|getClass|hashCode|equals|toString)\\b|->|::|\"");
     private static final int SOME_SIXTY_LINES = 60;
     private static final int SOME_FORTY_FIELDS = 40;
+    private static final int DEEPEST_CALLS = 6;
 
     private static int wrong = 0;
 
@@ -95,7 +100,7 @@ public final class LanguageTest {
     }
 
     private static void checkSource(String source) {
-        String code = source.replaceAll("(?s)/\\*.*?\\*/", "").replaceAll("//[^\n]*", "");
+        String code = withoutComments(source);
         Matcher word = FORBIDDEN.matcher(code);
         while (word.find()) {
             check(false, "rules 2, 3 and 6: the source has " + word.group());
@@ -119,6 +124,60 @@ public final class LanguageTest {
         }
     }
 
+    private static String withoutComments(String source) {
+        return source.replaceAll("(?s)/\\*.*?\\*/", "").replaceAll("//[^\n]*", "");
+    }
+
+    /** The body of each method by its name; its first and its last line stand four columns in. */
+    private static Map<String, String> bodies(String code) {
+        Map<String, String> bodies = new TreeMap<>();
+        Matcher member = Pattern.compile("(?ms)^    \\w[^\n(=;]*\\b(\\w+)\\([^\n]*\\{\n(.*?)^    }").matcher(code);
+        while (member.find()) {
+            check(bodies.put(member.group(1), member.group(2)) == null, "two methods bear the name " + member.group(1));
+        }
+        return bodies;
+    }
+
+    /** How deep the calls go from a method; a method that comes back to itself goes deeper than allowed, too. */
+    private static int depth(Map<String, String> bodies, String name, int above) {
+        int deepest = 1;
+        if (above > DEEPEST_CALLS) {
+            return deepest;
+        }
+        for (String called : bodies.keySet()) {
+            if (Pattern.compile("\\b" + called + "\\(").matcher(bodies.get(name)).find()) {
+                deepest = Math.max(deepest, 1 + depth(bodies, called, above + 1));
+            }
+        }
+        return deepest;
+    }
+
+    private static void checkCalls(String source) {
+        Map<String, String> bodies = bodies(withoutComments(source));
+        check(bodies.size() == CliqueLister.class.getDeclaredMethods().length + 1, "found just " + bodies.keySet());
+        for (String name : bodies.keySet()) {
+            int depth = depth(bodies, name, 0);
+            check(depth <= DEEPEST_CALLS, "rules 8 and 10: the calls of " + name + " go too deep");
+        }
+    }
+
+    /** Walks through the brackets and remembers which of them hold the arguments of a call. */
+    private static void checkArguments(String source) {
+        String code = withoutComments(source);
+        Deque<Boolean> open = new ArrayDeque<>();
+        for (int i = 0; i < code.length(); i++) {
+            if (code.charAt(i) == '(') {
+                String word = code.substring(0, i).replaceAll("(?s)^.*?(\\w*)$", "$1");
+                boolean call = !word.isEmpty() && !Set.of("if", "for", "while", "switch", "return").contains(word);
+                check(!call || !open.contains(true), "rule 10: " + word + " is called inside the arguments of a call");
+                open.push(call);
+            }
+            if (code.charAt(i) == ')') {
+                open.pop();
+            }
+        }
+    }
+
     public static void main(String[] args) throws Exception {
         String source = Files.readString(Path.of("src/main/java/CliqueLister.java"));
         checkClass();
@@ -126,6 +185,8 @@ public final class LanguageTest {
         checkFields();
         checkSource(source);
         checkLengths(source);
+        checkCalls(source);
+        checkArguments(source);
         if (wrong != 0) {
             System.exit(1);
         }
