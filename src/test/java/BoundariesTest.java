@@ -3,7 +3,8 @@ import java.util.HashMap;
 import java.util.List;
 import java.util.Map;
 
-// One method for each sentence of the document that names a boundary case, with the sentence above it.
+// One method for each sentence of the Terms and for each sentence of the promises that names a boundary case,
+// with the sentence above it.
 public final class BoundariesTest {
     private static final int MIN = Integer.MIN_VALUE;
     private static final int MAX = Integer.MAX_VALUE;
@@ -225,6 +226,23 @@ public final class BoundariesTest {
         }
     }
 
+    // "A CLIQUE is a set any two different members of which are joined"
+    private static void everyPairOfACliqueIsJoined() {
+        for (int n = 2; n <= 9; n++) {
+            int all = power(2, n) - 1;
+            for (int q = 1; q < n; q++) {
+                for (int p = 0; p < q; p++) {
+                    CliqueLister x = allJoinedBut(n, p, q);
+                    String name = n + " points, just " + p + " and " + q + " parted, ";
+                    due(name + "isClique(all)", x.isClique(all), 0);
+                    due(name + "isClique of these two", x.isClique(power(2, p) + power(2, q)), 0);
+                    due(name + "isClique of all but " + p, x.isClique(all - power(2, p)), 1);
+                    due(name + "isClique of all but " + q, x.isClique(all - power(2, q)), 1);
+                }
+            }
+        }
+    }
+
     // "the empty set and sets of one point are cliques"
     private static void emptySetAndSetsOfOnePointAreCliques() {
         for (int n = 2; n <= 9; n++) {
@@ -255,6 +273,31 @@ public final class BoundariesTest {
             due(n + " points, one pair parted, fullCliques()", but.fullCliques(), 2);
             due(n + " points, one pair parted, full(0)", but.full(0), all - power(2, n - 1));
             due(n + " points, one pair parted, full(1)", but.full(1), all - 1);
+        }
+    }
+
+    // "The weight of a set is the sum of its members' weights."
+    private static void weightOfASetIsTheSum() {
+        for (int n = 2; n <= 9; n++) {
+            CliqueLister x = allJoined(n);
+            // No two of these weights are the same, so a weight taken from another point shows.
+            int[] weights = {3, 20, 1, 7, 13, 2, 19, 5, 11};
+            int sum = 0;
+            for (int p = 0; p < n; p++) {
+                x.weigh(p, weights[p]);
+                sum += weights[p];
+            }
+            due(n + " joined points of different weights, heaviest()", x.heaviest(), sum);
+            for (int p = 0; p < n; p++) {
+                for (int q = 0; q < n; q++) {
+                    x.join(p, q, 0);
+                }
+                int rest = sum - weights[p];
+                due(n + " points, all joined but " + p + ", heaviest()", x.heaviest(), Math.max(rest, weights[p]));
+                for (int q = 0; q < n; q++) {
+                    x.join(p, q, 1);
+                }
+            }
         }
     }
 
@@ -898,8 +941,10 @@ public final class BoundariesTest {
         weightsAreOneAtFirst();
         noneAreJoinedAtFirst();
         setsAreSums();
+        everyPairOfACliqueIsJoined();
         emptySetAndSetsOfOnePointAreCliques();
         fullIsNoProperPart();
+        weightOfASetIsTheSum();
         betterByWeightThenByNumber();
         colouringsWithNoColourAndWithOne();
         noQuestionChangesAnything();

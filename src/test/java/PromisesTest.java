@@ -1,4 +1,5 @@
-// One method for each promise: ordinary inputs, the edges that the document names, and wrong inputs.
+// One method for each promise: ordinary inputs, the edges that the document names, and wrong inputs;
+// and one for the example of README.md.
 public final class PromisesTest {
     private static int wrong = 0;
 
@@ -357,6 +358,25 @@ public final class PromisesTest {
         due("18: all joined, alike(3, 3, 8)", allJoined(9).alike(3, 3, 8), 0);
     }
 
+    private static void exampleOfTheReadme() {
+        CliqueLister x = new CliqueLister(5);
+        due("README: join(0, 1, 1)", x.join(0, 1, 1), 0);
+        due("README: join(0, 2, 1)", x.join(0, 2, 1), 0);
+        due("README: join(1, 2, 1)", x.join(1, 2, 1), 0);
+        due("README: join(2, 3, 1)", x.join(2, 3, 1), 0);
+        due("README: fullCliques()", x.fullCliques(), 3);
+        due("README: full(0)", x.full(0), 7);
+        due("README: full(3)", x.full(3), -1);
+        due("README: weigh(3, 6)", x.weigh(3, 6), 1);
+        due("README: best()", x.best(), 12);
+        due("README: heaviest()", x.heaviest(), 7);
+        due("README: bestWith(1)", x.bestWith(1), 7);
+        due("README: bestWith(9)", x.bestWith(9), -2);
+        due("README: colours()", x.colours(), 3);
+        due("README: colourings(3)", x.colourings(3), 36);
+        due("README: alike(0, 3, 3)", x.alike(0, 3, 3), 1);
+    }
+
     public static void main(String[] args) {
         newObject();
         points();
@@ -376,6 +396,7 @@ public final class PromisesTest {
         colours();
         colourings();
         alike();
+        exampleOfTheReadme();
         if (wrong != 0) {
             System.exit(1);
         }

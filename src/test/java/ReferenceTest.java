@@ -1,12 +1,20 @@
 import java.util.ArrayList;
 import java.util.List;
+import java.util.Set;
+import java.util.TreeSet;
 
-// Long fixed runs of calls, each answer compared with a slow model that works straight from the Terms.
+// Fixed runs of 512 calls for each number of points, each answer compared with a slow model that works
+// straight from the Terms.
 public final class ReferenceTest {
-    private static final int RUNS = 150;
+    private static final int RUNS_EACH = 20;
     private static final int CALLS = 512;
+    private static final Set<String> FACE = Set.of(
+            "points", "join", "weave", "invert", "weigh", "joinedTo", "isClique", "fullCliques", "full",
+            "cliques", "heaviest", "best", "bestWith", "size", "colours", "colourings", "alike");
 
     private static int wrong = 0;
+    private static int calls = 0;
+    private static final Set<String> called = new TreeSet<>();
     private static long state = 20261115L;
 
     /** A fixed row of numbers, the same in every run of the test. */
@@ -278,14 +286,17 @@ public final class ReferenceTest {
         }
     }
 
-    private static void due(String call, int got, int want) {
+    /** One call of a run: counted, and compared with the answer of the model. */
+    private static void due(String run, String call, int got, int want) {
+        calls++;
+        called.add(call.substring(0, call.indexOf('(')));
         if (got != want) {
             wrong++;
-            System.out.println(call + " answered " + got + ", due is " + want);
+            System.out.println(run + ", call " + calls + ": " + call + " answered " + got + ", due is " + want);
         }
     }
 
-    private static void change(String where, CliqueLister x, Model m) {
+    private static void change(String run, CliqueLister x, Model m) {
         int last = m.n - 1;
         int a = pickAround(0, last);
         int b = pickAround(0, last);
@@ -293,68 +304,88 @@ public final class ReferenceTest {
             case 0 -> {
                 int seed = pickAround(0, 6);
                 int share = pickAround(0, 7);
-                due(where + "weave(" + seed + ", " + share + ")", x.weave(seed, share), m.weave(seed, share));
+                due(run, "weave(" + seed + ", " + share + ")", x.weave(seed, share), m.weave(seed, share));
             }
-            case 1 -> due(where + "invert()", x.invert(), m.invert());
+            case 1 -> due(run, "invert()", x.invert(), m.invert());
             case 2, 3, 4 -> {
                 int w = pickAround(1, pick(0, 1) == 0 ? 3 : 20);
-                due(where + "weigh(" + a + ", " + w + ")", x.weigh(a, w), m.weigh(a, w));
+                due(run, "weigh(" + a + ", " + w + ")", x.weigh(a, w), m.weigh(a, w));
             }
             default -> {
                 int flag = pick(-1, 2);
-                due(where + "join(" + a + ", " + b + ", " + flag + ")", x.join(a, b, flag), m.join(a, b, flag));
+                due(run, "join(" + a + ", " + b + ", " + flag + ")", x.join(a, b, flag), m.join(a, b, flag));
             }
         }
     }
 
-    private static void ask(String where, CliqueLister x, Model m) {
+    private static void ask(String run, CliqueLister x, Model m) {
         int last = m.n - 1;
         int p = pickAround(0, last);
         int q = pickAround(0, last);
         int s = pickAround(0, (1 << m.n) - 1);
         int k = pickAround(0, 9);
         int few = pickAround(0, 4);
-        int i = pickAround(0, 8);
+        int i = pickAround(0, m.n);
         switch (pick(0, 12)) {
-            case 0 -> due(where + "points()", x.points(), m.n);
-            case 1 -> due(where + "joinedTo(" + p + ")", x.joinedTo(p), m.joinedTo(p));
-            case 2 -> due(where + "isClique(" + s + ")", x.isClique(s), m.isClique(s));
-            case 3 -> due(where + "fullCliques()", x.fullCliques(), m.allFull().size());
-            case 4 -> due(where + "full(" + i + ")", x.full(i), m.full(i));
-            case 5 -> due(where + "cliques(" + k + ")", x.cliques(k), m.cliques(k));
-            case 6 -> due(where + "heaviest()", x.heaviest(), m.heaviest());
-            case 7 -> due(where + "best()", x.best(), m.bestWith(0));
-            case 8 -> due(where + "bestWith(" + s + ")", x.bestWith(s), m.bestWith(s));
-            case 9 -> due(where + "size()", x.size(), m.size());
-            case 10 -> due(where + "colours()", x.colours(), m.colours());
-            case 11 -> due(where + "colourings(" + few + ")", x.colourings(few), m.colourings(few));
-            default -> due(where + "alike(" + p + ", " + q + ", " + k + ")", x.alike(p, q, k), m.alike(p, q, k));
+            case 0 -> due(run, "points()", x.points(), m.n);
+            case 1 -> due(run, "joinedTo(" + p + ")", x.joinedTo(p), m.joinedTo(p));
+            case 2 -> due(run, "isClique(" + s + ")", x.isClique(s), m.isClique(s));
+            case 3 -> due(run, "fullCliques()", x.fullCliques(), m.allFull().size());
+            case 4 -> due(run, "full(" + i + ")", x.full(i), m.full(i));
+            case 5 -> due(run, "cliques(" + k + ")", x.cliques(k), m.cliques(k));
+            case 6 -> due(run, "heaviest()", x.heaviest(), m.heaviest());
+            case 7 -> due(run, "best()", x.best(), m.bestWith(0));
+            case 8 -> due(run, "bestWith(" + s + ")", x.bestWith(s), m.bestWith(s));
+            case 9 -> due(run, "size()", x.size(), m.size());
+            case 10 -> due(run, "colours()", x.colours(), m.colours());
+            case 11 -> due(run, "colourings(" + few + ")", x.colourings(few), m.colourings(few));
+            default -> due(run, "alike(" + p + ", " + q + ", " + k + ")", x.alike(p, q, k), m.alike(p, q, k));
         }
     }
 
-    /** Every pair and every weight, read without changing a thing. */
-    private static void compareState(String where, CliqueLister x, Model m) {
+    /** Every pair and every weight, read without changing a thing: 2n calls. */
+    private static void compareState(String run, CliqueLister x, Model m) {
         for (int p = 0; p < m.n; p++) {
-            due(where + "joinedTo(" + p + ")", x.joinedTo(p), m.joinedTo(p));
-            due(where + "weigh(" + p + ", same)", x.weigh(p, m.weight[p]), m.weight[p]);
+            int weight = m.weight[p];
+            due(run, "joinedTo(" + p + ")", x.joinedTo(p), m.joinedTo(p));
+            due(run, "weigh(" + p + ", " + weight + ")", x.weigh(p, weight), m.weigh(p, weight));
         }
+    }
+
+    /** A run that is not of 512 calls, or lacks a method, would show less than it is said to. */
+    private static void checkRun(String run) {
+        if (calls != CALLS || !called.equals(FACE)) {
+            wrong++;
+            System.out.println(run + " had " + calls + " calls, of " + called);
+        }
+    }
+
+    private static void run(int points, int number) {
+        String run = points + " points, run " + number;
+        CliqueLister x = new CliqueLister(points);
+        Model m = new Model(points);
+        calls = 0;
+        called.clear();
+        while (calls < CALLS - 2 * m.n) {
+            if (pick(0, 1) == 0) {
+                change(run, x, m);
+            } else {
+                ask(run, x, m);
+            }
+        }
+        compareState(run, x, m);
+        checkRun(run);
     }
 
     public static void main(String[] args) {
-        for (int run = 0; run < RUNS && wrong < 20; run++) {
-            int points = pickAround(2, 9);
-            CliqueLister x = new CliqueLister(points);
-            Model m = new Model(points);
-            int stateCalls = 2 * m.n;
-            for (int call = 0; call < CALLS - stateCalls && wrong < 20; call++) {
-                String where = "run " + run + ", call " + call + ": ";
-                if (pick(0, 1) == 0) {
-                    change(where, x, m);
-                } else {
-                    ask(where, x, m);
-                }
+        for (int points = 2; points <= 9; points++) {
+            for (int number = 1; number <= RUNS_EACH && wrong < 20; number++) {
+                run(points, number);
             }
-            compareState("run " + run + ", at the end: ", x, m);
+        }
+        // Numbers of points that become 2 and 9.
+        for (int points : new int[] {Integer.MIN_VALUE, 1, 10, Integer.MAX_VALUE}) {
+            run(points, 1);
         }
         if (wrong != 0) {
             System.exit(1);
